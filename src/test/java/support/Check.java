@@ -28,6 +28,10 @@ final class Check {
         same(what + " throws (1 NoSuchElementException, 2 IllegalArgumentException)", thrown(call), 2);
     }
 
+    static void fine(String what, Runnable call) {
+        same(what + " throws (1 NoSuchElementException, 2 IllegalArgumentException)", thrown(call), 0);
+    }
+
     private static int thrown(Runnable call) {
         try {
             call.run();
