@@ -262,7 +262,7 @@ public final class BoundaryCallsTest {
         LostMuseum back = Check.of(RING);
         back.span(1, 40, 0, 96, 1, 1);
         Check.work(back, "go 0 0;bar 1;");
-        String turned = "room 1;room 5;room 5;door 1 0 0 23;door 2 1 9 9;tour 2;";
+        String turned = "room 1;room 5;room 5;door 1 0 0 23;door 2 1 0 23;tour 2;";
         Sentence.due(Check.museum(back, turned), 3);
         Sentence.due(questions(back), questions(Check.of(turned)));
         LostMuseum again = Check.of(full());

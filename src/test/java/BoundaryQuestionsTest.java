@@ -227,6 +227,11 @@ public final class BoundaryQuestionsTest {
             + "door 2 3 0 0;door 2 4 0 0;door 0 5 0 0;door 0 6 0 0;door 3 7 0 0;door 4 8 0 0;door 5 9 0 0;");
         Check.walk(grown, "5;");
         Sentence.due(grown.knows(), 3);
+        // The same, where one comes to 0 from one room alone, and to 5 or 6 only when all others know: 4.
+        LostMuseum later = Check.of("room 1;room 2;room 5;room 3;room 3;room 4;room 4;room 6;room 6;room 5;door 2 1 0 0;"
+            + "door 1 0 0 0;door 0 5 0 0;door 0 6 0 0;door 9 3 0 0;door 9 4 0 0;door 3 7 0 0;door 4 8 0 0;");
+        Check.walk(later, "5;");
+        Sentence.due(later.knows(), 4);
         Sentence.due(Check.of("room 7;room 7;room 7;door 0 1 0 0;door 1 2 0 0;").knows(), 2);
     }
 
@@ -955,6 +960,9 @@ public final class BoundaryQuestionsTest {
         LostMuseum x = Check.of(star(10));
         Sentence.range(1, 40, many -> x.span(1, many, 0, 1, 1, 0));
         Sentence.illegal(() -> x.span(1, 0, 0, 1, 1, 0));
+        Sentence.due(x.span(1, 40, 0, 2, 0, 0), 40);
+        Sentence.due(x.span(1, 40, 0, 3, 0, 0), 0);
+        Sentence.due(x.span(1, 40, 0, 96, 0, 0), 40);
         for (int first : new int[] {0, -20, HIGH, HIGH - 20, LOW}) {
             for (int many : new int[] {1, 2, 39, 40}) {
                 for (int other = 0; other < 3; other++) {

@@ -94,15 +94,15 @@ public final class BoundaryStepsTest {
 
     private static void refusedChangesNothing() {
         Sentence.steps("one that can't be done is REFUSED, and changes nothing");
-        LostMuseum x = Check.of(ROW);
-        wait(x, 960);
-        Check.work(x, "bar 0;bar 4;unbar 4;go 5 5;");
         for (String step : new String[] {"go 0 0;", "go 0 1;", "go 0 5;", "go 5 2;", "bar 0;", "unbar 1;", "hour;"}) {
+            LostMuseum x = Check.of(ROW);
+            wait(x, 960);
+            Check.work(x, "bar 0;bar 4;unbar 4;go 5 5;");
             String before = state(x);
             Sentence.due(Check.work(x, step), 0);
             Sentence.due(x.told(9), 1);
             Sentence.due(state(x), before);
-            Sentence.due(x.undo(), 7);
+            Sentence.due(x.count(2), 8);
         }
     }
 

@@ -307,27 +307,30 @@ public final class BoundaryTermsTest {
         Sentence.due(!x.open(0, 0, 0) && !x.open(0, 23, 0) && x.open(0, 0, 1) && x.open(0, 23, 1), true);
         Check.law(x, "day-98");
         Sentence.due(!x.open(0, 23, 98) && x.open(0, 0, 99), true);
+        int[][] due = new int[4][24];
+        for (int d = 0; d < 24; d++) {
+            due[0][d] = d;
+            due[1][d] = d == 0 ? 0 : d == 23 ? 2 : 1;
+            due[2][d] = d == 0 ? 1 : d == 23 ? 0 : 2;
+            due[3][d] = d == 0 ? 0 : d == 23 ? 3 : 7;
+        }
         Sentence.terms("\"door\" (its number)");
-        Check.law(x, "1-door");
-        Sentence.due(x.open(0, 0, 0) && !x.open(1, 0, 0) && !x.open(23, 0, 0), true);
-        Check.law(x, "door-22");
-        Sentence.due(x.open(23, 0, 0) && !x.open(22, 0, 0) && !x.open(0, 0, 0), true);
+        factIs(x, "door", 24, due[0]);
         Sentence.terms("\"from\", \"to\" (numbers of its ROOMS)");
-        Check.law(x, "from");
-        Sentence.due(!x.open(0, 0, 0) && x.open(1, 0, 0) && x.open(23, 0, 0), true);
-        Check.law(x, "from-1");
-        Sentence.due(!x.open(1, 0, 0) && x.open(23, 0, 0), true);
-        Check.law(x, "to");
-        Sentence.due(x.open(0, 0, 0) && x.open(1, 0, 0) && !x.open(23, 0, 0), true);
-        Check.law(x, "to-1");
-        Sentence.due(!x.open(0, 0, 0) && x.open(1, 0, 0), true);
+        factIs(x, "from", 3, due[1]);
+        factIs(x, "to", 3, due[2]);
         Sentence.terms("\"sees\" (L of the ROOM it leads to)");
-        Check.law(x, "sees");
-        Sentence.due(!x.open(0, 0, 0) && x.open(1, 0, 0) && x.open(23, 0, 0), true);
-        Check.law(x, "sees-6");
-        Sentence.due(x.open(1, 0, 0) && !x.open(23, 0, 0), true);
-        Check.law(x, "(sees-2)*(4-sees)");
-        Sentence.due(!x.open(0, 0, 0) && !x.open(1, 0, 0) && x.open(23, 0, 0), true);
+        factIs(x, "sees", 8, due[3]);
+    }
+
+    /** A law that is 1 where a word has a value, and no more than 0 elsewhere. */
+    private static void factIs(LostMuseum x, String word, int values, int[] due) {
+        for (int v = 0; v < values; v += values > 12 ? 11 : 1) {
+            Check.law(x, "1-most[" + word + "-" + v + "," + v + "-" + word + "]");
+            for (int d : new int[] {0, 1, 2, 11, 12, 22, 23}) {
+                Sentence.due(x.open(d, 7, 7), due[d] == v);
+            }
+        }
     }
 
     private static void lawUsed() {
