@@ -200,6 +200,7 @@ public final class BoundaryQuestionsTest {
         Sentence.due(fork.knows(), 0);
         // No DOOR leads on: after one ROOM more there is none in which one may stand.
         Sentence.due(Check.of("room 0;room 0;").knows(), 1);
+        Sentence.due(Check.of("room 0;".repeat(10)).knows(), 1);
     }
 
     private static void knowsToSix() {
@@ -550,6 +551,7 @@ public final class BoundaryQuestionsTest {
         // All but 3 have been seen when one is in 1 or in 2, and only from 2 it goes on.
         Sentence.due(Check.of("room 0;room 0;room 0;room 0;door 0 1 0 0;door 0 2 0 0;door 1 2 0 0;door 2 1 0 0;door 2 3 0 0;").round(0), 3);
         Sentence.due(Check.of("room 0;room 0;room 0;room 0;door 0 1 0 0;door 0 2 0 0;door 1 2 0 0;door 2 1 0 0;door 1 3 0 0;").round(0), 3);
+        Sentence.due(Check.of("room 0;room 0;room 0;room 0;door 3 0 0 0;door 3 2 0 0;door 0 2 0 0;door 2 0 0 0;door 2 1 0 0;").round(3), 3);
         Sentence.due(Check.of(longRound()).round(0), 29);
         Sentence.due(Check.of(longRound()).round(1), 28);
     }
