@@ -343,7 +343,7 @@ public final class RandomRunsTest {
             case "string": return x.string(a[0]);
             case "longest": return x.longest(a[0]);
             case "lost": return x.lost(a[0]);
-            case "cuts": return dearCuts() ? 0 : x.cuts();
+            case "cuts": return x.cuts();
             case "wing": return x.wing(a[0]);
             case "round": return x.round(a[0]);
             case "last": return x.last(a[0]);
@@ -363,10 +363,6 @@ public final class RandomRunsTest {
             case "status": return x.status(a[0]);
             default: return x.count(a[0]);
         }
-    }
-
-    private static boolean dearCuts() {
-        return y.sees.size() > 5;
     }
 
     private static long askNaive(String name, int[] a) {
@@ -392,7 +388,7 @@ public final class RandomRunsTest {
             case "string": return y.string(a[0]);
             case "longest": return y.longest(a[0]);
             case "lost": return y.lost(a[0]);
-            case "cuts": return dearCuts() ? 0 : y.cuts();
+            case "cuts": return y.cuts();
             case "wing": return y.wing(a[0]);
             case "round": return y.round(a[0]);
             case "last": return y.last(a[0]);

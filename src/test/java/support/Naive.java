@@ -890,7 +890,8 @@ final class Naive {
         return bits(found);
     }
 
-    boolean joined(boolean[][] m) {
+    /** Which rooms can be come to from which. */
+    boolean[][] comings(boolean[][] m) {
         int n = m.length;
         boolean[][] c = new boolean[n][];
         for (int i = 0; i < n; i++) {
@@ -904,17 +905,10 @@ final class Naive {
                 }
             }
         }
-        for (boolean[] row : c) {
-            for (boolean b : row) {
-                if (!b) {
-                    return false;
-                }
-            }
-        }
-        return true;
+        return c;
     }
 
-    /** Tries every set of new doors, small sets first; dear beyond five rooms. */
+    /** Tries sets of new doors, small ones first. */
     int cuts() {
         int n = sees.size();
         boolean[][] m = new boolean[n][n];
@@ -922,31 +916,56 @@ final class Naive {
             m[d[1]][d[2]] = true;
         }
         for (int many = 0; many <= n; many++) {
-            if (joinedBy(m, many, 0)) {
+            if (joinedBy(m, many)) {
                 return many;
             }
         }
         return 99;
     }
 
-    boolean joinedBy(boolean[][] m, int many, int from) {
-        if (many == 0) {
-            return joined(m);
+    /** A door between rooms that are joined that way already is no help, so none such is tried. */
+    boolean joinedBy(boolean[][] m, int many) {
+        boolean[][] c = comings(m);
+        if (many < doorsNeeded(c)) {
+            return false;
         }
-        int n = m.length;
-        for (int e = from; e < n * n; e++) {
-            int a = e / n;
-            int b = e % n;
-            if (a != b && !m[a][b]) {
+        boolean all = true;
+        for (int a = 0; a < m.length; a++) {
+            for (int b = 0; b < m.length; b++) {
+                if (c[a][b]) {
+                    continue;
+                }
+                all = false;
                 m[a][b] = true;
-                boolean ok = joinedBy(m, many - 1, e + 1);
+                boolean ok = many > 0 && joinedBy(m, many - 1);
                 m[a][b] = false;
                 if (ok) {
                     return true;
                 }
             }
         }
-        return false;
+        return all;
+    }
+
+    /** Each wing that none comes to needs a new door to it, each that none leaves one from it; fewer can't do. */
+    int doorsNeeded(boolean[][] c) {
+        int to = 0;
+        int from = 0;
+        boolean one = true;
+        for (int r = 0; r < c.length; r++) {
+            boolean first = true;
+            boolean comesOnlyFromWing = true;
+            boolean goesOnlyToWing = true;
+            for (int o = 0; o < c.length; o++) {
+                one &= c[r][o];
+                first &= !(o < r && c[o][r] && c[r][o]);
+                comesOnlyFromWing &= !c[o][r] || c[r][o];
+                goesOnlyToWing &= !c[r][o] || c[o][r];
+            }
+            to += first && comesOnlyFromWing ? 1 : 0;
+            from += first && goesOnlyToWing ? 1 : 0;
+        }
+        return one ? 0 : Math.max(to, from);
     }
 
     /** Every order in which rooms can be come to first, by distances. */
