@@ -1,10 +1,13 @@
+import java.lang.reflect.Array;
 import java.lang.reflect.Constructor;
 import java.lang.reflect.Field;
 import java.lang.reflect.Method;
 import java.lang.reflect.Modifier;
 import java.nio.file.Files;
 import java.nio.file.Path;
+import java.util.Collections;
 import java.util.HashSet;
+import java.util.IdentityHashMap;
 import java.util.List;
 import java.util.Set;
 import java.util.TreeSet;
@@ -21,6 +24,9 @@ public final class FaceTest {
         nothingElseIsVisible();
         classesAreSmall();
         sourceKeepsToTheLanguage();
+        libraryIsThatOfTheRules();
+        callsMakeNoObjects();
+        anObjectIsSmall();
         Check.end();
     }
 
@@ -118,5 +124,73 @@ public final class FaceTest {
                 Check.holds("the method of line " + (begun + 1) + " is short", i - begun <= 60);
             }
         }
+    }
+
+    /** Rule 4: of what the rules list, the class uses these alone. */
+    private static void libraryIsThatOfTheRules() throws Exception {
+        Set<String> listed = Set.of("java/lang/Object.<init>", "java/lang/Math.min", "java/lang/Math.max",
+            "java/lang/Integer.bitCount", "java/lang/System.arraycopy", "java/lang/String.length", "java/lang/String.charAt",
+            "java/lang/IllegalArgumentException.<init>", "java/util/NoSuchElementException.<init>");
+        Set<String> used = new TreeSet<>(Pool.usedBy(LostMuseum.class));
+        for (Class<?> c : LostMuseum.class.getDeclaredClasses()) {
+            used.addAll(Pool.usedBy(c));
+        }
+        Check.holds("the library that is used can be read", used.contains("java/lang/Integer.bitCount"));
+        for (String one : used) {
+            Check.holds(one + " is of the library of the rules", listed.contains(one));
+        }
+    }
+
+    /** Rule 12: objects are made for fields and in constructors alone, but for exceptions. */
+    private static void callsMakeNoObjects() throws Exception {
+        Pattern method = Pattern.compile("^ {4,8}(?!return|throw)[\\w\\[\\] ]*?\\b(\\w+)\\(.*");
+        Pattern field = Pattern.compile("^ {4,8}(private )?final [\\w\\[\\]]+ \\w+ = new .*;$");
+        String inside = "";
+        int made = 0;
+        int number = 0;
+        for (String line : Files.readAllLines(SOURCE)) {
+            number++;
+            Matcher m = method.matcher(line);
+            if (m.matches() && !line.endsWith(";")) {
+                inside = m.group(1);
+            }
+            if (line.contains(" new ") && !line.contains("throw new ") && !line.trim().startsWith("/")) {
+                made++;
+                boolean constructs = !inside.isEmpty() && Character.isUpperCase(inside.charAt(0));
+                Check.holds("line " + number + " makes nothing in a call", constructs || field.matcher(line).matches());
+            }
+        }
+        Check.holds("lines that make objects can be read", made > 40);
+    }
+
+    /** A run's room is some 600,000 objects and 7.3 million fields and elements: one object takes little of it. */
+    private static void anObjectIsSmall() throws Exception {
+        Set<Object> found = Collections.newSetFromMap(new IdentityHashMap<>());
+        long parts = measure(new LostMuseum(), found);
+        Check.holds("an object is " + found.size() + " objects", found.size() <= 400);
+        Check.holds("an object has " + parts + " fields and elements", parts <= 12000);
+    }
+
+    /** How many fields and elements an object has with all that it holds. */
+    private static long measure(Object o, Set<Object> found) throws Exception {
+        if (o == null || !found.add(o)) {
+            return 0;
+        }
+        long parts = 0;
+        if (o.getClass().isArray()) {
+            parts += Array.getLength(o);
+            for (int i = 0; o instanceof Object[] && i < Array.getLength(o); i++) {
+                parts += measure(Array.get(o, i), found);
+            }
+            return parts;
+        }
+        for (Field f : o.getClass().getDeclaredFields()) {
+            if (!Modifier.isStatic(f.getModifiers())) {
+                parts++;
+                f.setAccessible(true);
+                parts += f.getType().isPrimitive() ? 0 : measure(f.get(o), found);
+            }
+        }
+        return parts;
     }
 }
